@@ -62,6 +62,11 @@ public final class SearchTest {
         solves("differ in the last rows", Puzzles.puzzle("2,2 1,1 1 3", "1,1 2,1 1 1,1 2"), MULTIPLE,
             "##.##/.#..#/...#./###..", "##.##/.#..#/#..../.###.");
         solves("wide", Puzzles.puzzle("1 2 1", "1 1 1 1"), MULTIPLE, "...#/.##./#...", "...#/##../..#.");
+        // In these two a search goes wrong that looks only at the row of a cell it has tried, not at its column.
+        solves("tried cell's column, square", Puzzles.puzzle("1 1,1 1,1 1", "3 1 1 1"), MULTIPLE,
+            ".#../#..#/#.#./#...", ".#../#.#./#..#/#...");
+        solves("tried cell's column, wide", Puzzles.puzzle("1,1 1 1,1 1,1", "1,1 1 2 1 - 1"), MULTIPLE,
+            ".#.#../#...../..#..#/#.#...", "#....#/..#.../#.#.../.#.#..");
         solves("eight permuted", Puzzles.puzzle("1 1 1 1 1 1 1 1", "1 1 1 1 1 1 1 1"), MULTIPLE,
             ".......#/......#./.....#../....#.../...#..../..#...../.#....../#.......",
             ".......#/......#./.....#../....#.../...#..../..#...../#......./.#......");
