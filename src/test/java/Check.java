@@ -1,29 +1,43 @@
-/** Counts and prints the answers that are not as due. */
+/** Counts the answers that are not as due, and prints them. */
 final class Check {
+    private static final int MOST_PRINTED = 40;
+
     private static int wrong = 0;
+    private static int printed = 0;
 
     private Check() {
     }
 
     static void due(String what, int got, int want) {
         if (got != want) {
-            wrong++;
-            System.out.println(what + " answered " + got + ", due is " + want);
+            tell(what + " answered " + got + ", due is " + want);
         }
     }
 
     static void due(String what, boolean got, boolean want) {
         if (got != want) {
-            wrong++;
-            System.out.println(what + " answered " + got + ", due is " + want);
+            tell(what + " answered " + got + ", due is " + want);
         }
     }
 
     static void due(String what, String got, String want) {
         if (!got.equals(want)) {
-            wrong++;
-            System.out.println(what + " answered\n" + got + "\ndue is\n" + want);
+            tell(what + " answered\n" + got + "\ndue is\n" + want);
         }
+    }
+
+    private static void tell(String text) {
+        wrong++;
+        printed++;
+        if (printed <= MOST_PRINTED) {
+            System.out.println(text);
+        } else if (printed == MOST_PRINTED + 1) {
+            System.out.println(".. more answers that are not as due are counted, not printed ..");
+        }
+    }
+
+    static void printAgain() {
+        printed = 0;
     }
 
     static int wrongAnswers() {

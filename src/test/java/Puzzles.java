@@ -25,6 +25,32 @@ final class Puzzles {
         }
     }
 
+    /** The clues of a grid whose rows are separated by '/'; '.' is EMPTY and '#' FILLED. */
+    static NonogramSolver ofGrid(String grid) {
+        return puzzle(cluesOf(grid), cluesOf(turned(grid)));
+    }
+
+    /** The grid with rows for columns. */
+    static String turned(String grid) {
+        String[] rows = grid.split("/");
+        StringBuilder text = new StringBuilder();
+        for (int c = 0; c < rows[0].length(); c++) {
+            text.append(c == 0 ? "" : "/");
+            for (String row : rows) {
+                text.append(row.charAt(c));
+            }
+        }
+        return text.toString();
+    }
+
+    private static String cluesOf(String grid) {
+        StringBuilder text = new StringBuilder();
+        for (String row : grid.split("/")) {
+            text.append(text.length() == 0 ? "" : " ").append(SmallPuzzles.clueOf(row));
+        }
+        return text.toString();
+    }
+
     /** Rows are separated by '/'; '?' is UNKNOWN, '.' EMPTY and '#' FILLED. */
     static String known(NonogramSolver x) {
         StringBuilder text = new StringBuilder();
