@@ -101,7 +101,7 @@ public final class Promise10Test {
         }
     }
 
-    /** The last row must be full and its first cell, or last cell, must be EMPTY. */
+    /** The last row must be full, but its first cell is EMPTY. */
     private static void spoil(NonogramSolver x) {
         x.clearLine(NonogramSolver.ROW, x.rows() - 1);
         x.addNumber(NonogramSolver.ROW, x.rows() - 1, x.cols());

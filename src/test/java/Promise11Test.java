@@ -153,7 +153,7 @@ public final class Promise11Test {
         }
     }
 
-    /** The last cell is given, and its row must be full but can't. */
+    /** The last row must be full, but its last cell is EMPTY. */
     private static void spoil(NonogramSolver x) {
         x.clearLine(NonogramSolver.ROW, x.rows() - 1);
         x.addNumber(NonogramSolver.ROW, x.rows() - 1, x.cols());
