@@ -102,6 +102,8 @@ final class States {
         states.add(new State("3x4 stalled, unique", () -> both(Puzzles.puzzle("1,1 1,1 2", "2 1 1 2"))));
         states.add(new State("2x2 complete, unique, every cell given", () -> both(diagonalGiven())));
         states.add(new State("3x5 with clues and givens, nothing run", () -> cornersGiven("1 1 -", "1 1 - - -")));
+        states.add(new State("5x3 with a contradiction, nothing run", () -> Puzzles.puzzle("1 - 1,1 - 1", "1 2 1")));
+        states.add(new State("3x4 unique, nothing run", () -> Puzzles.puzzle("1,1 1,1 2", "2 1 1 2")));
         states.add(new State("3x5 propagated alone", () -> {
             NonogramSolver x = cornersGiven("1 1 -", "1 1 - - -");
             x.propagate();

@@ -127,12 +127,17 @@ public final class TermsTest {
                 String across = filling.replace("#", "1 ").replace(".", "- ").trim();
                 for (String clue : clues) {
                     boolean satisfies = clue.equals(SmallPuzzles.clueOf(filling));
-                    int due = satisfies ? NonogramSolver.UNIQUE : NonogramSolver.NO_SOLUTION;
-                    Check.due("row " + clue + " as " + filling, Puzzles.puzzle(clue, across).solve(), due);
-                    Check.due("column " + clue + " as " + filling, Puzzles.puzzle(across, clue).solve(), due);
+                    lineIs("row " + clue + " as " + filling, Puzzles.puzzle(clue, across), satisfies);
+                    lineIs("column " + clue + " as " + filling, Puzzles.puzzle(across, clue), satisfies);
                 }
             }
         }
+    }
+
+    private static void lineIs(String name, NonogramSolver x, boolean satisfying) {
+        Check.due(name + ": propagate()", x.propagate(),
+            satisfying ? NonogramSolver.COMPLETE : NonogramSolver.CONTRADICTION);
+        Check.due(name + ": solve()", x.solve(), satisfying ? NonogramSolver.UNIQUE : NonogramSolver.NO_SOLUTION);
     }
 
     /** The row is empty and the column asks for the cell, or the other way about; and both with a given. */
@@ -140,27 +145,43 @@ public final class TermsTest {
         for (int i = 0; i < 8; i++) {
             NonogramSolver row = new NonogramSolver(1, 8);
             row.addNumber(COL, i, 1);
-            isUnsolvable("an empty row with column " + i, row);
+            lineIs("an empty row with column " + i, row, false);
             NonogramSolver col = new NonogramSolver(8, 1);
             col.addNumber(ROW, i, 1);
-            isUnsolvable("an empty column with row " + i, col);
+            lineIs("an empty column with row " + i, col, false);
             NonogramSolver given = new NonogramSolver(8, 8);
             given.setGiven(i, 7 - i, FILLED);
-            isUnsolvable("empty clues with a FILLED cell in row " + i, given);
+            lineIs("empty clues with a FILLED cell in row " + i, given, false);
             given.setGiven(i, 7 - i, EMPTY);
-            Check.due("empty clues with an EMPTY cell: propagate()", given.propagate(), NonogramSolver.COMPLETE);
-            Check.due("empty clues with an EMPTY cell: solve()", given.solve(), NonogramSolver.UNIQUE);
+            lineIs("empty clues with an EMPTY cell", given, true);
             Check.due("empty clues with an EMPTY cell: grid 0", Puzzles.stored(given, 0).contains("#"), false);
         }
     }
 
-    private static void isUnsolvable(String name, NonogramSolver x) {
-        Check.due(name + ": propagate()", x.propagate(), NonogramSolver.CONTRADICTION);
-        Check.due(name + ": solve()", x.solve(), NonogramSolver.NO_SOLUTION);
+    private static void gridOrder() {
+        twoCellsInEveryPlace();
+        rowsComeBeforeColumns();
     }
 
-    /** Two solutions that differ in two rows and two columns, wherever these are: the first one has EMPTY at the first of them. */
-    private static void gridOrder() {
+    /** One cell in each row and column. Listed column by column, another grid would be the second. */
+    private static void rowsComeBeforeColumns() {
+        for (int size = 3; size <= 8; size++) {
+            String ones = "1 ".repeat(size).trim();
+            NonogramSolver x = Puzzles.puzzle(ones, ones);
+            x.solve();
+            StringBuilder first = new StringBuilder();
+            for (int r = 0; r < size; r++) {
+                first.append(r == 0 ? "" : "/").append(".".repeat(size - 1 - r)).append('#').append(".".repeat(r));
+            }
+            String lastRows = "/.#" + ".".repeat(size - 2) + "/#" + ".".repeat(size - 1);
+            String changed = "/#" + ".".repeat(size - 1) + "/.#" + ".".repeat(size - 2);
+            Check.due(size + " cells: grid 0", Puzzles.stored(x, 0), first.toString());
+            Check.due(size + " cells: grid 1", Puzzles.stored(x, 1), first.toString().replace(lastRows, changed));
+        }
+    }
+
+    /** Two solutions that differ in two rows and two columns: the first one has EMPTY where these first cross. */
+    private static void twoCellsInEveryPlace() {
         for (int size = 2; size <= 8; size++) {
             for (int top = 0; top < size; top++) {
                 for (int low = top + 1; low < size; low++) {
